@@ -1,21 +1,27 @@
-/** Long runs of calls, the same on the program and on the model, with every answer compared. */
+/** Runs of 512 calls, the same on the program and on the model, with every answer compared. */
 public final class ModelTest {
-    private static final int RUNS = 50;
-    private static final int CALLS = 512;
+    private static final int RUNS = 400;
+    private static final int MOST_CALLS_OF_A_STEP = 100;
+    private static final int MOST_QUESTIONS_AT_THE_END = 150;
 
     private static long seed = 1;
-    private static RoughTables x;
+    private static Counted x;
     private static RoughModel m;
     private static String run;
 
     public static void main(String[] args) {
         for (int i = 0; i < RUNS; i++) {
             seed = i * 7919L + 1;
-            x = new RoughTables();
+            x = new Counted();
             m = new RoughModel();
-            for (int call = 0; call < CALLS; call++) {
-                run = "run " + i + ", call " + call + ": ";
-                step(i % 5);
+            int atTheEnd = MOST_CALLS_OF_A_STEP + below(MOST_QUESTIONS_AT_THE_END - MOST_CALLS_OF_A_STEP);
+            while (x.callsLeft() > atTheEnd) {
+                run = "run " + i + ", " + x.callsLeft() + " calls left: ";
+                step(i % 6);
+            }
+            while (x.callsLeft() > 0) {
+                run = "run " + i + ", " + x.callsLeft() + " calls left: ";
+                question();
             }
         }
         Check.end("ModelTest");
@@ -37,49 +43,56 @@ public final class ModelTest {
         return below(12) == 0 ? near(6) : below(Math.max(1, m.count(0)));
     }
 
+    /** A run's mood: of everything, of texts, of rows, of merges, up to the limit of the time, of single things. */
     private static void step(int mood) {
+        int dice = below(100);
         if (m.count(0) < 2 && below(3) > 0) {
             table();
-            return;
-        }
-        int dice = below(100);
-        if (mood == 1 && dice < 60) {
+        } else if (mood == 1 && dice < 30) {
             text();
-        } else if (mood == 2 && dice < 60) {
+        } else if (mood == 2 && dice < 50) {
             row(1 + below(100));
-        } else if (mood == 3 && dice < 60) {
+        } else if (mood == 3 && dice < 50) {
             merge();
-        } else if (mood == 4 && dice < 70) {
+        } else if (mood == 4) {
             fill();
+        } else if (mood == 5 && dice < 50) {
+            add();
+        } else if (dice % 3 == 0) {
+            question();
         } else {
-            any();
+            change();
         }
     }
 
-    private static void any() {
-        switch (below(24)) {
+    private static void change() {
+        switch (below(14)) {
             case 0: table(); break;
-            case 1: add(); break;
-            case 2: row(near(101)); break;
-            case 3: row(below(9)); break;
-            case 4: merge(); break;
-            case 5: case 6: if (below(4) == 0) { reset(); } else { add(); } break;
-            case 7: tableOf(); break;
-            case 8: keptAt(); break;
-            case 9: sawAt(); break;
-            case 10: hash(); break;
-            case 11: has(); break;
-            case 12: logAt(); break;
-            case 13: count(); break;
-            case 14: errorBits(); break;
-            case 15: byError(); break;
-            case 16: would(); break;
-            case 17: raises(); break;
-            case 18: case 19: both(); break;
-            case 20: undo(); break;
-            case 21: text(); break;
-            case 22: play(); break;
-            default: fault(); break;
+            case 1: case 2: case 3: add(); break;
+            case 4: row(near(101)); break;
+            case 5: case 6: case 7: row(below(9)); break;
+            case 8: case 9: merge(); break;
+            case 10: reset(); break;
+            case 11: undo(); break;
+            case 12: text(); break;
+            default: play(); break;
+        }
+    }
+
+    private static void question() {
+        switch (below(15)) {
+            case 0: case 1: case 2: tableOf(); break;
+            case 3: case 4: keptAt(); break;
+            case 5: sawAt(); break;
+            case 6: hash(); break;
+            case 7: has(); break;
+            case 8: logAt(); break;
+            case 9: count(); break;
+            case 10: errorBits(); break;
+            case 11: byError(); break;
+            case 12: would(); break;
+            case 13: both(); break;
+            default: if (below(3) == 0) { raises(); } else { fault(); } break;
         }
     }
 
@@ -116,24 +129,21 @@ public final class ModelTest {
 
     private static void tableOf() {
         int t = aTable();
-        for (int what = -1; what <= 10; what++) {
-            Check.due(run + "tableOf(" + t + ", " + what + ")", x.tableOf(t, what), m.tableOf(t, what));
-        }
+        int what = near(9);
+        Check.due(run + "tableOf(" + t + ", " + what + ")", x.tableOf(t, what), m.tableOf(t, what));
     }
 
     private static void keptAt() {
         int t = aTable();
-        for (int index = -1; index <= 33; index++) {
-            Check.due(run + "keptAt(" + t + ", " + index + ")", x.keptAt(t, index), m.keptAt(t, index));
-        }
+        int index = below(2) == 0 ? near(7) : near(31);
+        Check.due(run + "keptAt(" + t + ", " + index + ")", x.keptAt(t, index), m.keptAt(t, index));
     }
 
     private static void sawAt() {
         int t = aTable();
         int index = below(3) == 0 ? near(999) : below(3 + Math.max(0, m.tableOf(t, 3)));
-        for (int what = -1; what <= 2; what++) {
-            Check.due(run + "sawAt(" + t + ", " + index + ", " + what + ")", x.sawAt(t, index, what), m.sawAt(t, index, what));
-        }
+        int what = near(1);
+        Check.due(run + "sawAt(" + t + ", " + index + ", " + what + ")", x.sawAt(t, index, what), m.sawAt(t, index, what));
     }
 
     private static void hash() {
@@ -145,22 +155,19 @@ public final class ModelTest {
     private static void has() {
         int t = aTable();
         int thing = near(999);
-        for (int what = -1; what <= 2; what++) {
-            Check.due(run + "has(" + t + ", " + thing + ", " + what + ")", x.has(t, thing, what), m.has(t, thing, what));
-        }
+        int what = near(1);
+        Check.due(run + "has(" + t + ", " + thing + ", " + what + ")", x.has(t, thing, what), m.has(t, thing, what));
     }
 
     private static void logAt() {
         int index = near(8);
-        for (int what = -1; what <= 3; what++) {
-            Check.due(run + "logAt(" + index + ", " + what + ")", x.logAt(index, what), m.logAt(index, what));
-        }
+        int what = near(2);
+        Check.due(run + "logAt(" + index + ", " + what + ")", x.logAt(index, what), m.logAt(index, what));
     }
 
     private static void count() {
-        for (int what = -1; what <= 8; what++) {
-            Check.due(run + "count(" + what + ")", x.count(what), m.count(what));
-        }
+        int what = near(7);
+        Check.due(run + "count(" + what + ")", x.count(what), m.count(what));
     }
 
     private static void errorBits() {
@@ -187,9 +194,8 @@ public final class ModelTest {
     private static void both() {
         int one = aTable();
         int other = aTable();
-        for (int what = -1; what <= 4; what++) {
-            Check.due(run + "both(" + one + ", " + other + ", " + what + ")", x.both(one, other, what), m.both(one, other, what));
-        }
+        int what = near(3);
+        Check.due(run + "both(" + one + ", " + other + ", " + what + ")", x.both(one, other, what), m.both(one, other, what));
     }
 
     private static void undo() {
@@ -200,31 +206,36 @@ public final class ModelTest {
     }
 
     private static void fault() {
-        for (int what = -1; what <= 3; what++) {
-            Check.due(run + "fault(" + what + ")", x.fault(what), m.fault(what));
-        }
+        int what = near(2);
+        Check.due(run + "fault(" + what + ")", x.fault(what), m.fault(what));
     }
 
     private static void play() {
         Check.due(run + "play()", x.play(), m.play());
     }
 
-    private static void type(int character) {
-        Check.due(run + "type(" + character + ")", x.type(character), m.type(character));
+    private static void clearText() {
+        Check.due(run + "clearText()", x.clearText(), m.clearText());
+    }
+
+    private static void type(String signs) {
+        for (int i = 0; i < signs.length(); i++) {
+            int sign = signs.charAt(i);
+            Check.due(run + "type(" + sign + ")", x.type(sign), m.type(sign));
+        }
     }
 
     private static void text() {
         if (below(3) == 0 || m.text.length() > 60 && below(2) == 0) {
-            Check.due(run + "clearText()", x.clearText(), m.clearText());
+            clearText();
         }
         int many = 1 + below(4);
         for (int i = 0; i < many; i++) {
-            String command = command();
-            for (int k = 0; k < command.length(); k++) {
-                type(command.charAt(k));
-            }
+            type(command());
         }
-        fault();
+        for (int what = 0; what < 3; what++) {
+            Check.due(run + "fault(" + what + ")", x.fault(what), m.fault(what));
+        }
         play();
     }
 
@@ -251,20 +262,23 @@ public final class ModelTest {
         return made;
     }
 
-    /** Texts and rows that bring the time to its limit. */
+    /** A text of long rows, played until the time is at its limit. */
     private static void fill() {
-        if (below(3) == 0) {
-            row(100 - below(3));
-            return;
-        }
-        Check.due(run + "clearText()", x.clearText(), m.clearText());
-        for (int i = 0; i < 6; i++) {
-            String command = "s" + Math.max(0, m.count(0) - 1 - below(2)) + "," + below(1000) + "," + below(10) + ",100;";
-            for (int k = 0; k < command.length(); k++) {
-                type(command.charAt(k));
+        if (m.text.length() < 60) {
+            clearText();
+            for (int i = 0; i < 6; i++) {
+                type("s" + Math.max(0, m.count(0) - 1 - below(2)) + "," + below(1000) + "," + below(10) + ",100;");
             }
         }
-        fault();
-        play();
+        int dice = below(10);
+        if (dice < 5 && m.fault(1) < 0) {
+            play();
+        } else if (dice < 8) {
+            row(100 - below(3));
+        } else if (dice < 9) {
+            row(near(100));
+        } else {
+            question();
+        }
     }
 }

@@ -13,7 +13,7 @@ import java.util.stream.Collectors;
 
 /**
  * The document once more, in another way: what is kept roughly is not kept here, but found anew from the exact set each
- * time, and the history holds whole copies.
+ * time, and no table is ever changed: a change puts another one in its place, so that copies may share them.
  */
 final class RoughModel {
     static final Pattern COMMAND = Pattern.compile(
@@ -25,6 +25,9 @@ final class RoughModel {
         long additions;
         int resets;
         TreeMap<Integer, Integer> seen = new TreeMap<>();
+        /** What was found of it last, for the same number of things. */
+        private List<Integer> kept;
+        private int keptOf = -1;
 
         Tab copy() {
             Tab other = new Tab();
@@ -57,7 +60,11 @@ final class RoughModel {
         }
 
         List<Integer> kept() {
-            return kept(hashes());
+            if (keptOf != seen.size()) {
+                keptOf = seen.size();
+                kept = kept(hashes());
+            }
+            return kept;
         }
 
         /** Kind 0 and 2: 32 bits or 8 registers; kind 1: the kept hashes. */
@@ -135,9 +142,7 @@ final class RoughModel {
 
         State copy() {
             State other = new State();
-            for (Tab tab : tabs) {
-                other.tabs.add(tab.copy());
-            }
+            other.tabs.addAll(tabs);
             other.log.addAll(log);
             other.time = time;
             return other;
@@ -145,6 +150,12 @@ final class RoughModel {
 
         boolean no(int table) {
             return table < 0 || table >= tabs.size();
+        }
+
+        Tab anew(int table) {
+            Tab tab = tabs.get(table).copy();
+            tabs.set(table, tab);
+            return tab;
         }
 
         int table(int kind, int seed) {
@@ -168,10 +179,11 @@ final class RoughModel {
             if (time + many > 20000) {
                 return -3;
             }
+            Tab tab = anew(table);
             for (int i = 0; i < many; i++) {
-                tabs.get(table).put((thing + i * step) % 1000, time++);
+                tab.put((thing + i * step) % 1000, time++);
             }
-            return tabs.get(table).told();
+            return tab.told();
         }
 
         int merge(int into, int from) {
@@ -181,8 +193,9 @@ final class RoughModel {
             if (unlike(into, from)) {
                 return -2;
             }
-            tabs.get(into).unite(tabs.get(from));
-            return tabs.get(into).told();
+            Tab tab = anew(into);
+            tab.unite(tabs.get(from));
+            return tab.told();
         }
 
         boolean unlike(int one, int other) {
@@ -193,7 +206,7 @@ final class RoughModel {
             if (no(table)) {
                 return -1;
             }
-            Tab tab = tabs.get(table);
+            Tab tab = anew(table);
             int exact = tab.seen.size();
             log.add(0, new int[] {table, tab.told(), exact});
             if (log.size() > 8) {
@@ -310,21 +323,28 @@ final class RoughModel {
     }
 
     int count(int what) {
-        TreeSet<Integer> any = new TreeSet<>();
-        TreeSet<Integer> every = new TreeSet<>();
-        int right = 0;
-        for (int i = 0; i < state.tabs.size(); i++) {
-            Tab tab = state.tabs.get(i);
-            any.addAll(tab.seen.keySet());
-            if (i == 0) {
-                every.addAll(tab.seen.keySet());
-            }
-            every.retainAll(tab.seen.keySet());
-            right += tab.error() == 0 ? 1 : 0;
+        switch (what) {
+            case 0: return state.tabs.size();
+            case 1: return state.time;
+            case 2: return seenBy(1);
+            case 3: return state.tabs.isEmpty() ? 0 : seenBy(state.tabs.size());
+            case 4: return state.log.size();
+            case 5: return (int) state.tabs.stream().filter(tab -> tab.error() == 0).count();
+            case 6: return history.size();
+            case 7: return text.length();
+            default: return -1;
         }
-        int[] all = {state.tabs.size(), state.time, any.size(), every.size(), state.log.size(), right, history.size(),
-            text.length()};
-        return out(what, 7) ? -1 : all[what];
+    }
+
+    /** How many things were seen by so many tables or more. */
+    private int seenBy(int tables) {
+        int[] by = new int[1000];
+        for (Tab tab : state.tabs) {
+            for (int thing : tab.seen.keySet()) {
+                by[thing]++;
+            }
+        }
+        return (int) Arrays.stream(by).filter(many -> many >= tables).count();
     }
 
     int errorBits(int table) {

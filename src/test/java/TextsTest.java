@@ -16,7 +16,7 @@ public final class TextsTest {
     }
 
     private static void type() {
-        RoughTables x = new RoughTables();
+        Counted x = new Counted();
         int[] wrong = {31, 127, 0, -1, 10, 255, Integer.MIN_VALUE, Integer.MAX_VALUE, 65536 + 'k'};
         for (int sign : wrong) {
             Check.due("type(" + sign + ")", x.type(sign), Check.INVALID);
@@ -34,7 +34,7 @@ public final class TextsTest {
     }
 
     private static void clearText() {
-        RoughTables x = new RoughTables();
+        Counted x = new Counted();
         Check.due("empty", x.clearText(), 0);
         Check.type(x, "k0,0;");
         Check.due("length", x.clearText(), 5);
@@ -44,7 +44,7 @@ public final class TextsTest {
         Check.due("typed anew", x.type('z'), 1);
     }
 
-    private static void faultIs(RoughTables x, String text, int position, int reason, int cause) {
+    private static void faultIs(Counted x, String text, int position, int reason, int cause) {
         Check.retype(x, text);
         Check.due(text + ": position", x.fault(0), position);
         Check.due(text + ": reason", x.fault(1), reason);
@@ -53,7 +53,7 @@ public final class TextsTest {
     }
 
     private static void faultOfForm() {
-        RoughTables x = new RoughTables();
+        Counted x = new Counted();
         x.table(0, 0);
         x.table(0, 0);
         String[] wrong = {"k", "k0", "k0,", "k0,0", "k,0;", "k0,;", "k0;", "k0,0,0;", "k0000,0;", "k0,0000;", "k 0,0;",
@@ -73,7 +73,7 @@ public final class TextsTest {
     }
 
     private static void formsThatAreRight() {
-        RoughTables x = new RoughTables();
+        Counted x = new Counted();
         x.table(2, 0);
         x.table(2, 0);
         String[] right = {"k0,0;", "k002,009;", "a0,0;", "a000,007;", "a1,999;", "s0,0,0,1;", "s000,999,999,100;", "m0,1;",
@@ -93,7 +93,7 @@ public final class TextsTest {
     }
 
     private static void faultOfRefusal() {
-        RoughTables x = new RoughTables();
+        Counted x = new Counted();
         x.table(0, 0);
         x.table(1, 0);
         x.add(0, 1);
@@ -110,7 +110,7 @@ public final class TextsTest {
     }
 
     private static void faultAfterCommands() {
-        RoughTables x = new RoughTables();
+        Counted x = new Counted();
         faultIs(x, "a0,1;", 0, 2, Check.INVALID);
         faultIs(x, "k0,3;a0,1;a1,1;", 10, 2, Check.INVALID);
         faultIs(x, "k0,3;k0,4;m0,1;", 10, 2, Check.NOT_POSSIBLE);
@@ -127,7 +127,7 @@ public final class TextsTest {
     }
 
     private static void faultArguments() {
-        RoughTables x = new RoughTables();
+        Counted x = new Counted();
         int[] wrong = {-1, 3, Integer.MIN_VALUE, Integer.MAX_VALUE};
         String[] texts = {"", "k0,0;", "z9;", "z"};
         for (String text : texts) {
@@ -139,7 +139,7 @@ public final class TextsTest {
     }
 
     private static void play() {
-        RoughTables x = new RoughTables();
+        Counted x = new Counted();
         Check.due("an empty text", x.play(), 0);
         Check.due("is a change too", x.count(6), 1);
         Check.retype(x, "k0,3;k0,3;s1,1,11,30;a1,500;k0,3;a2,4;m2,1;z1;");
@@ -161,15 +161,19 @@ public final class TextsTest {
     }
 
     private static void playIsOneChange() {
-        RoughTables x = new RoughTables();
-        x.table(0, 0);
-        x.add(0, 9);
-        String before = Check.all(x).substring(Check.all(x).indexOf('\n'));
-        Check.retype(x, "a0,1;a0,2;a0,3;a0,4;a0,5;z0;k1,1;");
-        Check.due("commands", x.play(), 7);
-        Check.due("states", x.count(6), 3);
-        Check.due("undo", x.undo(), 2);
-        Check.due("as before", Check.all(x).substring(Check.all(x).indexOf('\n')), before);
+        Script before = x -> {
+            x.table(0, 0);
+            x.add(0, 9);
+            Check.retype(x, "a0,1;a0,2;a0,3;a0,4;a0,5;z0;k1,1;");
+        };
+        Script after = x -> {
+            before.on(x);
+            Check.due("commands", x.play(), 7);
+            Check.due("states", x.count(6), 3);
+            Check.due("undo", x.undo(), 2);
+        };
+        Look.same("undone, as before", after, before);
+        Counted x = Script.fresh(after);
         Check.due("the text is not undone", x.count(7), 33);
         x.clearText();
         for (int i = 0; i < 6; i++) {
@@ -181,7 +185,7 @@ public final class TextsTest {
     }
 
     private static void playToTheLimit() {
-        RoughTables x = new RoughTables();
+        Counted x = new Counted();
         x.table(1, 1);
         x.addRow(0, 0, 1, 79);
         Check.retype(x, "s0,0,1,100;s0,0,1,100;s0,0,1,100;s0,0,1,100;s0,0,1,100;s0,0,1,100;s0,0,1,100;");
@@ -204,7 +208,7 @@ public final class TextsTest {
     }
 
     private static void fullText() {
-        RoughTables x = new RoughTables();
+        Counted x = new Counted();
         x.table(0, 0);
         StringBuilder text = new StringBuilder();
         for (int i = 0; i < 26; i++) {

@@ -15,8 +15,8 @@ public final class WhatThereIsTest {
         Check.end("WhatThereIsTest");
     }
 
-    private static RoughTables threeTables() {
-        RoughTables x = new RoughTables();
+    private static Counted threeTables() {
+        Counted x = new Counted();
         x.table(0, 1);
         x.table(1, 1);
         x.table(2, 1);
@@ -27,7 +27,7 @@ public final class WhatThereIsTest {
     }
 
     private static void tableOf() {
-        RoughTables x = threeTables();
+        Counted x = threeTables();
         int[][] due = {
             {0, 1, 18, 20, 14, 20, 998, 20, 0, 18},
             {1, 1, 16, 20, 8, 20, 996, 20, 0, 16},
@@ -45,7 +45,7 @@ public final class WhatThereIsTest {
 
     /** What is told is held between the sure bounds, the rough count is not. */
     private static void boundsOfTold() {
-        RoughTables x = new RoughTables();
+        Counted x = new Counted();
         x.table(1, 0);
         x.addRow(0, 0, 1, 8);
         Check.due("rough below", x.tableOf(0, 9), 7);
@@ -55,7 +55,7 @@ public final class WhatThereIsTest {
         int[] things = new int[8];
         int filled = 0;
         for (int thing = 999; thing >= 0; thing--) {
-            int h = x.hash(thing, 2);
+            int h = RoughModel.hashOf(thing, 2);
             if (h / 8 % 16 == 0 && things[h % 8] == 0) {
                 things[h % 8] = thing;
                 filled++;
@@ -81,56 +81,33 @@ public final class WhatThereIsTest {
         Check.due("one hash", x.tableOf(2, 2), 1);
     }
 
-    /** The rough count, found anew from what is kept, after each of many additions. */
+    /** The rough count after each of many additions, by each kind and seed. */
     private static void roughCounts() {
         for (int seed = 0; seed < 10; seed++) {
-            RoughTables x = new RoughTables();
             for (int kind = 0; kind < 3; kind++) {
+                Counted x = new Counted();
                 x.table(kind, seed);
-                for (int i = 0; i < 100; i++) {
-                    x.addRow(kind, i * 37 % 1000, 1, 1 + i / 30);
-                    int rough = kind == 1 ? roughByHashes(x) : roughByParts(x, kind);
-                    Check.due("rough, kind " + kind, x.tableOf(kind, 9), rough);
-                    int told = Math.max(x.tableOf(kind, 4), Math.min(rough, x.tableOf(kind, 5)));
-                    Check.due("told, kind " + kind, x.tableOf(kind, 2), told);
+                RoughModel.Tab tab = new RoughModel.Tab();
+                tab.kind = kind;
+                tab.seed = seed;
+                for (int i = 0; i < 160; i++) {
+                    int thing = (i * 37 + 11 * seed) % 1000;
+                    tab.put(thing, i);
+                    Check.due("told, kind " + kind, x.add(0, thing), tab.told());
+                    Check.due("rough, kind " + kind, x.tableOf(0, 9), tab.rough());
+                    Check.due("low, kind " + kind, x.tableOf(0, 4), tab.low());
                 }
             }
         }
     }
 
-    private static int roughByHashes(RoughTables x) {
-        int kept = 0;
-        while (x.keptAt(1, kept) >= 0) {
-            kept++;
-        }
-        return kept < 8 ? kept : 458752 / (x.keptAt(1, 7) + 1);
-    }
-
-    private static int roughByParts(RoughTables x, int kind) {
-        int size = kind == 0 ? 32 : 8;
-        int free = 0;
-        int sum = 0;
-        for (int i = 0; i < size; i++) {
-            free += x.keptAt(kind, i) == 0 ? 1 : 0;
-            sum += 16384 >> x.keptAt(kind, i);
-        }
-        if (kind == 2 && free == 0) {
-            return 655360 / sum;
-        }
-        int parts = 0;
-        for (int k = free + 1; k <= size; k++) {
-            parts += size * 1000 / k;
-        }
-        return parts / 1000;
-    }
-
     private static void keptAt() {
-        RoughTables x = threeTables();
+        Counted x = threeTables();
         int lit = 0;
         for (int i = 0; i < 32; i++) {
             int bit = 0;
             for (int k = 0; k < 20; k++) {
-                bit = x.hash(5 + 7 * k, 1) / 2048 == i ? 1 : bit;
+                bit = RoughModel.hashOf(5 + 7 * k, 1) / 2048 == i ? 1 : bit;
             }
             Check.due("bit " + i, x.keptAt(0, i), bit);
             lit += bit;
@@ -144,7 +121,7 @@ public final class WhatThereIsTest {
         for (int i = 0; i < 8; i++) {
             int register = 0;
             for (int k = 0; k < 20; k++) {
-                int h = x.hash(5 + 7 * k, 1);
+                int h = RoughModel.hashOf(5 + 7 * k, 1);
                 register = h % 8 == i ? Math.max(register, 1 + Integer.numberOfTrailingZeros(h / 8)) : register;
             }
             Check.due("register " + i, x.keptAt(2, i), register);
@@ -167,7 +144,7 @@ public final class WhatThereIsTest {
     }
 
     private static void sawAt() {
-        RoughTables x = new RoughTables();
+        Counted x = new Counted();
         x.table(2, 0);
         x.table(0, 0);
         x.add(0, 500);
@@ -191,7 +168,7 @@ public final class WhatThereIsTest {
     }
 
     private static void hash() {
-        RoughTables x = new RoughTables();
+        Counted x = new Counted();
         int[][] due = {{5, 1, 33127}, {0, 0, 40741}, {999, 0, 36955}, {0, 9, 14005}, {999, 9, 8106}, {453, 6, 0},
             {227, 2, 5}, {19, 0, 1809}};
         for (int[] d : due) {
@@ -205,7 +182,7 @@ public final class WhatThereIsTest {
     }
 
     private static void has() {
-        RoughTables x = new RoughTables();
+        Counted x = new Counted();
         for (int kind = 0; kind < 3; kind++) {
             x.table(kind, 0);
             Check.due("not yet", x.has(kind, 0, 0), 0);
@@ -230,7 +207,7 @@ public final class WhatThereIsTest {
     }
 
     private static void hasByHashes() {
-        RoughTables x = new RoughTables();
+        Counted x = new Counted();
         x.table(1, 0);
         x.addRow(0, 0, 1, 7);
         Check.due("7 kept: a greater one would be kept", x.has(0, 3, 1), 1);
@@ -247,7 +224,7 @@ public final class WhatThereIsTest {
     }
 
     private static void logAt() {
-        RoughTables x = new RoughTables();
+        Counted x = new Counted();
         x.table(0, 0);
         x.table(1, 0);
         int[] tolds = new int[8];
@@ -285,7 +262,7 @@ public final class WhatThereIsTest {
     }
 
     private static void count() {
-        RoughTables x = threeTables();
+        Counted x = threeTables();
         x.add(0, 5);
         x.reset(2);
         x.type('k');
@@ -304,7 +281,7 @@ public final class WhatThereIsTest {
     }
 
     private static void countOfThings() {
-        RoughTables x = new RoughTables();
+        Counted x = new Counted();
         Check.due("of any, no tables", x.count(2), 0);
         Check.due("of all, no tables", x.count(3), 0);
         x.table(0, 0);
