@@ -22,6 +22,8 @@ public final class TermsTest {
         toldIsTheHighBound();
         errorsAreSigned();
         withoutAdditions();
+        emptyTablesSawNothing();
+        theHashOfZero();
         Check.end("TermsTest");
     }
 
@@ -457,6 +459,40 @@ public final class TermsTest {
                 Check.due("saw nothing", x.sawAt(0, 0, 0), Check.NOT_FOUND);
                 Check.due("with itself", x.both(0, 0, 0), 0);
                 Check.due("less", x.both(0, 0, 2), 0);
+            }
+        }
+    }
+
+    /** An empty table would keep each thing, that with the hash 0 too: it could have seen none. */
+    private static void emptyTablesSawNothing() {
+        for (int kind = 0; kind < 3; kind++) {
+            for (int seed = 0; seed < 10; seed++) {
+                for (int from = 0; from < 1000; from += 250) {
+                    Counted x = of(kind, seed);
+                    for (int thing = from; thing < from + 250; thing++) {
+                        Check.due("could have seen " + thing + " of seed " + seed, x.has(0, thing, 1), 0);
+                    }
+                }
+            }
+        }
+    }
+
+    /** Thing 453 has the hash 0 with the seed 6: with 0 to 9 other hashes ahead of it, and again after a reset. */
+    private static void theHashOfZero() {
+        for (int others = 0; others < 10; others++) {
+            Counted x = of(1, 6);
+            for (int turn = 0; turn < 2; turn++) {
+                for (int thing = 0; thing < others; thing++) {
+                    x.add(0, thing);
+                }
+                Check.due("is not kept beside " + others, x.has(0, 453, 1), 0);
+                x.add(0, 453);
+                Check.due("is kept beside " + others, x.has(0, 453, 1), 1);
+                Check.due("is the smallest one", x.keptAt(0, 0), 0);
+                Check.due("low", x.tableOf(0, 4), Math.min(8, others + 1));
+                x.reset(0);
+                Check.due("is not kept after the reset", x.has(0, 453, 1), 0);
+                Check.due("no hash is kept", x.keptAt(0, 0), Check.NOT_FOUND);
             }
         }
     }
